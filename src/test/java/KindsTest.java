@@ -228,7 +228,7 @@ public final class KindsTest {
         CHECKS.stream("DELAY of that", n, 7, 10, 11, 14, 19, 26, 35);
     }
 
-    // The slowest network there is: each item goes once round all processes.
+    // Each item must go once round all processes before the next one can come.
     private static void longChainBackwards() {
         ProcessNetwork n = new ProcessNetwork();
         n.set(7, Kind.DELAY, 0, 1);
