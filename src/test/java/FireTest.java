@@ -22,36 +22,23 @@ public final class FireTest {
         }
     }
 
-    // The same network, fired between the sets of the one and never of the other.
+    // The same network, fired between the sets of the one and never of the other. Each number of
+    // sets has objects of its own: the comparison takes most of an object's 512 calls.
     private static void changesNothing() {
-        ProcessNetwork fired = new ProcessNetwork();
-        ProcessNetwork quiet = new ProcessNetwork();
-        int[] kinds = {Kind.COUNT, Kind.LIST, Kind.ADD, Kind.TURN, Kind.ODD, Kind.DELAY, Kind.MERGE, Kind.SUM};
-        for (int p = 0; p < 8; p++) {
-            int inputs = Kind.inputs((p + 5) & 7, (p + 7) & 7);
-            for (int steps : STEPS) {
-                fired.fire(p, steps);
+        for (int sets = 0; sets <= 8; sets++) {
+            ProcessNetwork fired = new ProcessNetwork();
+            ProcessNetwork quiet = new ProcessNetwork();
+            for (int p = 0; p < sets; p++) {
+                int inputs = Kind.inputs((p + 5) & 7, (p + 7) & 7);
+                fired.fire(p, STEPS[p]);
+                fired.set(p, p, inputs, 3 - p);
+                quiet.set(p, p, inputs, 3 - p);
+                fired.fire((p * 3) & 7, STEPS[p + 3]);
             }
-            fired.set(p, kinds[p], inputs, 3 - p);
-            quiet.set(p, kinds[p], inputs, 3 - p);
-            fired.fire((p * 3) & 7, p);
-            compare(fired, quiet, "after set " + p);
-        }
-        fired.fire(6, 2);
-        fired.exchange(6, 4);
-        quiet.exchange(6, 4);
-        fired.fire(4, 3);
-        compare(fired, quiet, "after exchange");
-    }
-
-    private static void compare(ProcessNetwork fired, ProcessNetwork quiet, String when) {
-        CHECKS.answer(when + ": full()", fired.full(), quiet.full());
-        for (int p = 0; p < 8; p++) {
-            CHECKS.answer(when + ": length(" + p + ")", fired.length(p), quiet.length(p));
-            CHECKS.answer(when + ": sum(" + p + ")", fired.sum(p), quiet.sum(p));
-            for (int i = 0; i < 40; i++) {
-                CHECKS.answer(when + ": item(" + p + ", " + i + ")", fired.item(p, i), quiet.item(p, i));
-            }
+            fired.exchange(6, 4);
+            quiet.exchange(6, 4);
+            fired.fire(4, 3);
+            CHECKS.sameAnswers("fired between " + sets + " sets", fired, quiet);
         }
     }
 }

@@ -7,8 +7,8 @@ import java.util.Random;
  * in another way. The seed is fixed, so that every run is the same.
  */
 public final class ModelTest {
-    private static final int OBJECTS = 1500;
-    private static final int CALLS = 200;
+    private static final int OBJECTS = 600;
+    private static final int CALLS = 512;
 
     private final Checks checks;
     private final Random random;
