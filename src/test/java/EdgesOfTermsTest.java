@@ -22,6 +22,7 @@ public final class EdgesOfTermsTest {
         delayOfEmptyAndFull();
         mergeOfEqualItems();
         mergeNeedsBoth();
+        mergeNeedsBothAtEveryItem();
         mergeNeedsBothForTheLastItem();
         mergeOfFarItems();
         sumOfEmpty();
@@ -335,6 +336,33 @@ public final class EdgesOfTermsTest {
         CHECKS.stream("10, 14 and 18 are left of x", n, 7, 1, 2, 3, 5, 6, 7, 9);
         n.set(6, Kind.DELAY, 0, 8);
         CHECKS.stream("9 alone is left of y", n, 7, 1, 3, 5, 7, 8);
+        n.set(7, Kind.MERGE, Kind.inputs(2, 6), 0);
+        CHECKS.stream("9 alone is left of x", n, 7, 1, 3, 5, 7, 8);
+    }
+
+    // The same words: whichever item of MERGE is the one after which an input has no next, it is
+    // the last. The only item of one input is used up after none, one, .. of the other's.
+    private static void mergeNeedsBothAtEveryItem() {
+        for (int only = -1; only <= 41; only++) {
+            ProcessNetwork n = new ProcessNetwork();
+            n.set(0, Kind.ODD, 0, 0);
+            n.set(1, Kind.DELAY, 0, only);
+            n.set(2, Kind.COUNT, 0, 0);
+            n.set(3, Kind.MERGE, Kind.inputs(2, 1), 0);
+            n.set(4, Kind.MERGE, Kind.inputs(1, 2), 0);
+            CHECKS.stream("MERGE of 0 1 .. and " + only, n, 3, countedUpTo(only + 1, only));
+            CHECKS.stream("MERGE of " + only + " and 0 1 ..", n, 4, countedUpTo(Math.max(only, 0), only));
+        }
+    }
+
+    // 0, 1, .. as many as are said and then the last one, but no more than forty in all.
+    private static int[] countedUpTo(int howMany, int last) {
+        if (howMany >= 40) {
+            return Checks.counted(0, 40);
+        }
+        int[] items = Checks.counted(0, howMany + 1);
+        items[howMany] = last;
+        return items;
     }
 
     private static void mergeNeedsBothForTheLastItem() {
